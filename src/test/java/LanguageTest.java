@@ -1,0 +1,91 @@
+import java.io.IOException;
+import java.lang.reflect.Constructor;
+import java.lang.reflect.Field;
+import java.lang.reflect.Method;
+import java.lang.reflect.Modifier;
+import java.nio.file.Files;
+import java.nio.file.Path;
+import java.util.Arrays;
+import java.util.HashSet;
+import java.util.Set;
+import java.util.TreeSet;
+import java.util.regex.Pattern;
+
+/** The rules of LANGUAGE.md that can be seen from the class or from its words. Run from the project's root. */
+public final class LanguageTest {
+    private static final Set<String> FACE = Set.of(
+        "int put(int)", "int repeat(int,int)", "void erase()", "int send()", "int receive()",
+        "int at(int)", "int length()", "int blocks()", "int find(int,int)", "void edit()");
+    private static final Set<String> NUMBERS = Set.of("int", "long", "short", "byte", "char", "boolean");
+    private static final String[] WORDS = {
+        "import", "package", "throw", "throws", "try", "catch", "finally", "synchronized", "assert",
+        "instanceof", "null", "float", "double", "String", "Math", "Integer", "System", "Arrays",
+        "interface", "enum", "record", "protected", "getClass", "equals", "hashCode", "toString", "clone",
+    };
+
+    private LanguageTest() {
+    }
+
+    public static void main(String[] args) throws IOException {
+        members();
+        fields();
+        methods();
+        words();
+        Check.end();
+    }
+
+    private static void members() {
+        Class<?> it = SqueezeQueue.class;
+        Check.that("public and final", Modifier.isPublic(it.getModifiers()) && Modifier.isFinal(it.getModifiers()));
+        Check.due("nested classes", it.getDeclaredClasses().length, 0);
+        Constructor<?>[] made = it.getDeclaredConstructors();
+        Check.that("one public constructor without arguments",
+            made.length == 1 && made[0].getParameterCount() == 0 && Modifier.isPublic(made[0].getModifiers()));
+    }
+
+    private static void fields() {
+        Field[] all = SqueezeQueue.class.getDeclaredFields();
+        int beside = 0;
+        for (Field field : all) {
+            int modifiers = field.getModifiers();
+            String type = field.getType().getSimpleName();
+            Check.that(field + " is private", Modifier.isPrivate(modifiers));
+            if (Modifier.isStatic(modifiers)) {
+                Check.that(field + " is a constant", Modifier.isFinal(modifiers) && Set.of("int", "long").contains(type));
+            } else {
+                beside++;
+                Check.that(field + " is of numbers", NUMBERS.contains(type.replaceFirst("\\[]$", "")));
+            }
+        }
+        Check.that("at most forty fields", beside <= 40);
+    }
+
+    private static void methods() {
+        Set<String> seen = new TreeSet<>();
+        Set<String> names = new HashSet<>();
+        for (Method method : SqueezeQueue.class.getDeclaredMethods()) {
+            String types = Arrays.toString(method.getParameterTypes()).replaceAll("[\\[\\] ]", "");
+            Check.that(method + " has at most seven parameters", method.getParameterCount() <= 7);
+            Check.that(method + " answers no array", !method.getReturnType().isArray());
+            Check.that(method + " has a name of its own", names.add(method.getName()));
+            if (Modifier.isPublic(method.getModifiers())) {
+                seen.add(method.getReturnType() + " " + method.getName() + "(" + types + ")");
+            } else {
+                Check.that(method + " is private", Modifier.isPrivate(method.getModifiers()));
+            }
+        }
+        Check.that("the public methods are those of the document: " + seen, seen.equals(FACE));
+    }
+
+    private static void words() throws IOException {
+        String source = Files.readString(Path.of("src/main/java/SqueezeQueue.java"));
+        String code = source.replaceAll("(?s)/\\*.*?\\*/", "").replaceAll("//[^\n]*", "");
+        for (String word : WORDS) {
+            Check.that("no " + word, !Pattern.compile("\\b" + word + "\\b").matcher(code).find());
+        }
+        Check.that("no lambda, method reference or static initialiser",
+            !code.contains("->") && !code.contains("::") && !code.matches("(?s).*\\bstatic\\s*\\{.*"));
+        Check.that("new stands in the fields' initialisers alone",
+            code.lastIndexOf("new ") < code.indexOf("public SqueezeQueue()"));
+    }
+}
