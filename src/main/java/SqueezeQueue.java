@@ -169,6 +169,7 @@ public final class SqueezeQueue {
         keep(slot, distance);
     }
 
+    // The bound is never met, as SLOT_BYTES tells; it stands so that no index goes unchecked.
     private void keep(int slot, int value) {
         int length = squeezedLength[slot];
         if (length < SLOT_BYTES) {
@@ -199,6 +200,7 @@ public final class SqueezeQueue {
         }
     }
 
+    // squeezeDraft keeps no other distances; looked at for the same reason as in keep.
     private void copyInPage(int distance, int count) {
         if (distance < 1 || distance > pageLength) {
             return;

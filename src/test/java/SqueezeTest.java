@@ -33,6 +33,7 @@ public final class SqueezeTest {
             pairs.put(200 + value);
         }
         Check.due("short repeats", blockLength(pairs), 49);
+        comesBack("short repeats", pairs, 211);
 
         // The worst that copies can do: each of three bytes, with one plain byte between.
         SqueezeQueue triples = new SqueezeQueue();
@@ -43,11 +44,23 @@ public final class SqueezeTest {
             triples.put(100 + value);
         }
         Check.due("repeats of three", blockLength(triples), 49);
-        Check.due("repeats of three: receive()", triples.receive(), 48);
-        Check.due("repeats of three: at(47)", triples.at(47), 111);
+        comesBack("repeats of three", triples, 111);
+
+        SqueezeQueue twice = new SqueezeQueue();
+        for (int value = 1; value <= 3; value++) {
+            twice.put(value);
+        }
+        twice.repeat(3, 3);
+        Check.due("three bytes twice", blockLength(twice), 6);
 
         Check.due("no bytes", blockLength(new SqueezeQueue()), 0);
         Check.end();
+    }
+
+    /** A block too long for its place would be cut: then its last byte is missing. */
+    private static void comesBack(String what, SqueezeQueue x, int last) {
+        Check.due(what + ": receive()", x.receive(), 48);
+        Check.due(what + ": at(47)", x.at(47), last);
     }
 
     private static int blockLength(SqueezeQueue x) throws ReflectiveOperationException {
