@@ -9,6 +9,7 @@ import java.util.Arrays;
 import java.util.HashSet;
 import java.util.Set;
 import java.util.TreeSet;
+import java.util.regex.Matcher;
 import java.util.regex.Pattern;
 
 /** The rules of LANGUAGE.md that can be seen from the class or from its words. Run from the project's root. */
@@ -23,6 +24,10 @@ public final class LanguageTest {
         "interface", "enum", "record", "protected", "getClass", "equals", "hashCode", "toString", "clone",
     };
 
+    /** Its indent, its counter and its body, up to the brace that stands under the for. */
+    private static final Pattern COUNTING_LOOP = Pattern.compile(
+        "(?s)\n( *)for \\(int (\\w+) = [^;]+; \\2 <=? \\w+; \\2\\+\\+\\) \\{\n(.*?)\n\\1}");
+
     private LanguageTest() {
     }
 
@@ -31,6 +36,7 @@ public final class LanguageTest {
         fields();
         methods();
         words();
+        loops();
         Check.end();
     }
 
@@ -77,9 +83,13 @@ public final class LanguageTest {
         Check.that("the public methods are those of the document: " + seen, seen.equals(FACE));
     }
 
-    private static void words() throws IOException {
+    private static String code() throws IOException {
         String source = Files.readString(Path.of("src/main/java/SqueezeQueue.java"));
-        String code = source.replaceAll("(?s)/\\*.*?\\*/", "").replaceAll("//[^\n]*", "");
+        return source.replaceAll("(?s)/\\*.*?\\*/", "").replaceAll("//[^\n]*", "");
+    }
+
+    private static void words() throws IOException {
+        String code = code();
         for (String word : WORDS) {
             Check.that("no " + word, !Pattern.compile("\\b" + word + "\\b").matcher(code).find());
         }
@@ -87,5 +97,24 @@ public final class LanguageTest {
             !code.contains("->") && !code.contains("::") && !code.matches("(?s).*\\bstatic\\s*\\{.*"));
         Check.that("new stands in the fields' initialisers alone",
             code.lastIndexOf("new ") < code.indexOf("public SqueezeQueue()"));
+    }
+
+    /** Rules 7 and 8: every loop counts up by one to a bound, and nothing in it turns the counter back. */
+    private static void loops() throws IOException {
+        String code = code();
+        Check.that("no while and no do", !Pattern.compile("\\b(while|do)\\b").matcher(code).find());
+        int all = 0;
+        Matcher heads = Pattern.compile("\\bfor\\b").matcher(code);
+        while (heads.find()) {
+            all++;
+        }
+        int counting = 0;
+        Matcher loops = COUNTING_LOOP.matcher(code);
+        for (int from = 0; loops.find(from); from = loops.end(2)) {
+            counting++;
+            Pattern changed = Pattern.compile("\\b" + loops.group(2) + "(\\+\\+|--|\\s*[-+*/%&|^]?=[^=])");
+            Check.that("the counter stays in: " + loops.group(), !changed.matcher(loops.group(3)).find());
+        }
+        Check.due("loops that count to a bound", counting, all);
     }
 }

@@ -23,100 +23,56 @@ public final class PromiseTest {
         Check.end();
     }
 
-    private static SqueezeQueue withDraft(int... bytes) {
-        SqueezeQueue x = new SqueezeQueue();
-        putAll(x, bytes);
-        return x;
-    }
-
-    private static SqueezeQueue withPage(int... bytes) {
-        SqueezeQueue x = withDraft(bytes);
-        x.send();
-        x.receive();
-        x.erase();
-        return x;
-    }
-
-    private static void putAll(SqueezeQueue x, int... bytes) {
-        for (int value : bytes) {
-            x.put(value);
-        }
-    }
-
-    private static int[] row(int count, int first, int step) {
-        int[] bytes = new int[count];
-        for (int i = 0; i < count; i++) {
-            bytes[i] = first + i * step & 255;
-        }
-        return bytes;
-    }
-
-    private static void pageIs(String what, SqueezeQueue x, int... bytes) {
-        Check.due(what + ": length()", x.length(), bytes.length);
-        Check.due(what + ": at(-1)", x.at(-1), -1);
-        for (int i = 0; i < bytes.length; i++) {
-            Check.due(what + ": at(" + i + ")", x.at(i), bytes[i]);
-        }
-        Check.due(what + ": at behind the end", x.at(bytes.length), -1);
-    }
-
-    /** Looks at the draft by sending it; the queue has to be empty, and the page is lost. */
-    private static void draftIs(String what, SqueezeQueue x, int... bytes) {
-        Check.due(what + ": send()", x.send(), 1);
-        Check.due(what + ": receive()", x.receive(), bytes.length);
-        pageIs(what, x, bytes);
-    }
-
     private static void promise1NewObject() {
-        Check.due("1: blocks()", new SqueezeQueue().blocks(), 0);
-        Check.due("1: receive()", new SqueezeQueue().receive(), -1);
-        Check.due("1: put(0)", new SqueezeQueue().put(0), 1);
-        Check.due("1: repeat(1, 1)", new SqueezeQueue().repeat(1, 1), -1);
-        Check.due("1: find(0, 0)", new SqueezeQueue().find(0, 0), -1);
-        pageIs("1: the page", new SqueezeQueue());
-        draftIs("1: the draft", new SqueezeQueue());
-        SqueezeQueue one = withPage(1, 2, 3);
-        SqueezeQueue other = new SqueezeQueue();
-        pageIs("1: another object", other);
-        pageIs("1: the first object", one, 1, 2, 3);
+        Check.due("1: blocks()", new Counted().blocks(), 0);
+        Check.due("1: receive()", new Counted().receive(), -1);
+        Check.due("1: put(0)", new Counted().put(0), 1);
+        Check.due("1: repeat(1, 1)", new Counted().repeat(1, 1), -1);
+        Check.due("1: find(0, 0)", new Counted().find(0, 0), -1);
+        Bench.pageIs("1: the page", new Counted());
+        Bench.draftIs("1: the draft", new Counted());
+        Counted one = Bench.withPage(1, 2, 3);
+        Counted other = new Counted();
+        Bench.pageIs("1: another object", other);
+        Bench.pageIs("1: the first object", one, 1, 2, 3);
     }
 
     private static void promise2Put() {
-        SqueezeQueue x = new SqueezeQueue();
+        Counted x = new Counted();
         int[] values = {0, 255, 256, -1, 127, 128, -128, 511, MIN, MAX};
         for (int i = 0; i < values.length; i++) {
             Check.due("2: put(" + values[i] + ")", x.put(values[i]), i + 1);
         }
-        draftIs("2: value & 255", x, 0, 255, 0, 255, 127, 128, 128, 255, 0, 255);
+        Bench.draftIs("2: value & 255", x, 0, 255, 0, 255, 127, 128, 128, 255, 0, 255);
 
-        SqueezeQueue full = new SqueezeQueue();
-        int[] bytes = row(48, 200, 3);
+        Counted full = new Counted();
+        int[] bytes = Bench.row(48, 200, 3);
         for (int i = 0; i < 48; i++) {
             Check.due("2: put", full.put(bytes[i]), i + 1);
         }
         Check.due("2: put into 48 bytes", full.put(9), -1);
         Check.due("2: put into 48 bytes again", full.put(MIN), -1);
-        draftIs("2: full draft unchanged", full, bytes);
+        Bench.draftIs("2: full draft unchanged", full, bytes);
     }
 
     private static void promise3RepeatCopies() {
-        SqueezeQueue x = withDraft(1, 2, 3, 4);
+        Counted x = Bench.withDraft(1, 2, 3, 4);
         Check.due("3: repeat(3, 2)", x.repeat(3, 2), 6);
-        draftIs("3: shorter than the distance", x, 1, 2, 3, 4, 2, 3);
+        Bench.draftIs("3: shorter than the distance", x, 1, 2, 3, 4, 2, 3);
 
-        x = withDraft(1, 2, 3);
+        x = Bench.withDraft(1, 2, 3);
         Check.due("3: repeat(3, 3)", x.repeat(3, 3), 6);
-        draftIs("3: the whole draft", x, 1, 2, 3, 1, 2, 3);
+        Bench.draftIs("3: the whole draft", x, 1, 2, 3, 1, 2, 3);
 
-        x = withDraft(9, 1, 2);
+        x = Bench.withDraft(9, 1, 2);
         Check.due("3: repeat(2, 5)", x.repeat(2, 5), 8);
-        draftIs("3: bytes just put are copied again", x, 9, 1, 2, 1, 2, 1, 2, 1);
+        Bench.draftIs("3: bytes just put are copied again", x, 9, 1, 2, 1, 2, 1, 2, 1);
 
-        x = withDraft(255);
+        x = Bench.withDraft(255);
         Check.due("3: repeat(1, 47)", x.repeat(1, 47), 48);
-        draftIs("3: up to 48 bytes", x, row(48, 255, 0));
+        Bench.draftIs("3: up to 48 bytes", x, Bench.row(48, 255, 0));
 
-        x = withDraft(row(47, 0, 1));
+        x = Bench.withDraft(Bench.row(47, 0, 1));
         Check.due("3: repeat(47, 1)", x.repeat(47, 1), 48);
         Check.due("3: repeat in 48 bytes", x.repeat(48, 1), -1);
     }
@@ -128,110 +84,110 @@ public final class PromiseTest {
             {0, 0}, {4, 46}, {MIN, MIN}, {MAX, MAX},
         };
         for (int[] pair : wrong) {
-            SqueezeQueue x = withDraft(5, 6, 7);
+            Counted x = Bench.withDraft(5, 6, 7);
             String call = "3: repeat(" + pair[0] + ", " + pair[1] + ")";
             Check.due(call, x.repeat(pair[0], pair[1]), -1);
-            draftIs(call, x, 5, 6, 7);
+            Bench.draftIs(call, x, 5, 6, 7);
         }
-        SqueezeQueue x = withDraft(5, 6, 7);
+        Counted x = Bench.withDraft(5, 6, 7);
         Check.due("3: repeat(1, 45)", x.repeat(1, 45), 48);
     }
 
     private static void promise4Erase() {
-        SqueezeQueue x = withDraft(1, 2, 3);
+        Counted x = Bench.withDraft(1, 2, 3);
         x.erase();
         Check.due("4: repeat in an erased draft", x.repeat(1, 1), -1);
-        draftIs("4: erased", x);
-        x = withDraft(row(48, 1, 1));
+        Bench.draftIs("4: erased", x);
+        x = Bench.withDraft(Bench.row(48, 1, 1));
         x.erase();
         x.erase();
         Check.due("4: put after erase", x.put(7), 1);
-        draftIs("4: begun again", x, 7);
+        Bench.draftIs("4: begun again", x, 7);
 
-        x = withPage(4, 5);
-        putAll(x, 6);
+        x = Bench.withPage(4, 5);
+        Bench.putAll(x, 6);
         x.send();
         x.erase();
-        pageIs("4: the page stays", x, 4, 5);
+        Bench.pageIs("4: the page stays", x, 4, 5);
         Check.due("4: the queue stays", x.blocks(), 1);
         Check.due("4: the block stays", x.receive(), 1);
-        pageIs("4: the block stays", x, 6);
+        Bench.pageIs("4: the block stays", x, 6);
     }
 
     private static void promise5Send() {
-        SqueezeQueue x = withPage(77);
-        putAll(x, 1, 2, 3);
+        Counted x = Bench.withPage(77);
+        Bench.putAll(x, 1, 2, 3);
         Check.due("5: send()", x.send(), 1);
-        pageIs("5: the page stays", x, 77);
+        Bench.pageIs("5: the page stays", x, 77);
         Check.due("5: the draft stays", x.put(4), 4);
         Check.due("5: send()", x.send(), 2);
         x.erase();
         Check.due("5: send() of an empty draft", x.send(), 3);
-        putAll(x, row(48, 0, 5));
+        Bench.putAll(x, Bench.row(48, 0, 5));
         Check.due("5: send()", x.send(), 4);
         x.erase();
-        putAll(x, 99);
+        Bench.putAll(x, 99);
         Check.due("5: send() into 4 blocks", x.send(), -1);
         Check.due("5: blocks()", x.blocks(), 4);
-        pageIs("5: the page after a refusal", x, 77);
+        Bench.pageIs("5: the page after a refusal", x, 77);
         x.receive();
-        pageIs("5: block 1", x, 1, 2, 3);
+        Bench.pageIs("5: block 1", x, 1, 2, 3);
         Check.due("5: send() into the free place", x.send(), 4);
         x.receive();
-        pageIs("5: block 2", x, 1, 2, 3, 4);
+        Bench.pageIs("5: block 2", x, 1, 2, 3, 4);
         x.receive();
-        pageIs("5: block 3", x);
+        Bench.pageIs("5: block 3", x);
         x.receive();
-        pageIs("5: block 4", x, row(48, 0, 5));
+        Bench.pageIs("5: block 4", x, Bench.row(48, 0, 5));
         x.receive();
-        pageIs("5: the draft after a refusal", x, 99);
+        Bench.pageIs("5: the draft after a refusal", x, 99);
         Check.due("5: blocks()", x.blocks(), 0);
     }
 
     private static void promise6Receive() {
-        SqueezeQueue x = new SqueezeQueue();
+        Counted x = new Counted();
         Check.due("6: receive() of an empty queue", x.receive(), -1);
         for (int round = 0; round < 9; round++) {
             for (int block = 0; block < 3; block++) {
                 x.erase();
-                putAll(x, row(block + 1, round * 10 + block, 7));
+                Bench.putAll(x, Bench.row(block + 1, round * 10 + block, 7));
                 Check.due("6: send()", x.send(), block + 1);
             }
             for (int block = 0; block < 3; block++) {
                 Check.due("6: receive()", x.receive(), block + 1);
-                pageIs("6: oldest first", x, row(block + 1, round * 10 + block, 7));
+                Bench.pageIs("6: oldest first", x, Bench.row(block + 1, round * 10 + block, 7));
                 Check.due("6: blocks()", x.blocks(), 2 - block);
             }
         }
         Check.due("6: receive() of an emptied queue", x.receive(), -1);
-        pageIs("6: the page after a refusal", x, row(3, 82, 7));
+        Bench.pageIs("6: the page after a refusal", x, Bench.row(3, 82, 7));
         Check.due("6: the draft stays", x.put(1), 4);
 
-        x = withPage(1, 2, 3);
+        x = Bench.withPage(1, 2, 3);
         x.send();
         Check.due("6: receive() of an empty block", x.receive(), 0);
-        pageIs("6: an empty block becomes the page", x);
+        Bench.pageIs("6: an empty block becomes the page", x);
     }
 
     private static void promise7At() {
-        SqueezeQueue x = withPage(0, 127, 128, 255);
-        pageIs("7: at", x, 0, 127, 128, 255);
+        Counted x = Bench.withPage(0, 127, 128, 255);
+        Bench.pageIs("7: at", x, 0, 127, 128, 255);
         int[] wrong = {-1, 4, 47, 48, 49, MIN, MAX};
         for (int place : wrong) {
             Check.due("7: at(" + place + ")", x.at(place), -1);
         }
-        x = withPage(row(48, 255, -5));
-        pageIs("7: a page of 48 bytes", x, row(48, 255, -5));
+        x = Bench.withPage(Bench.row(48, 255, -5));
+        Bench.pageIs("7: a page of 48 bytes", x, Bench.row(48, 255, -5));
         x.put(3);
         x.send();
         x.receive();
-        pageIs("7: a short page after a long one", x, 3);
+        Bench.pageIs("7: a short page after a long one", x, 3);
         Check.due("7: at(47)", x.at(47), -1);
     }
 
     private static void promise8Length() {
         for (int count = 0; count <= 48; count++) {
-            SqueezeQueue x = withPage(row(count, 10, 0));
+            Counted x = Bench.withPage(Bench.row(count, 10, 0));
             Check.due("8: length()", x.length(), count);
             x.put(1);
             x.send();
@@ -240,7 +196,7 @@ public final class PromiseTest {
     }
 
     private static void promise9Blocks() {
-        SqueezeQueue x = new SqueezeQueue();
+        Counted x = new Counted();
         for (int count = 1; count <= 4; count++) {
             x.send();
             Check.due("9: blocks()", x.blocks(), count);
@@ -256,7 +212,7 @@ public final class PromiseTest {
     }
 
     private static void promise10Find() {
-        SqueezeQueue x = withPage(0, 255, 7, 255, 0);
+        Counted x = Bench.withPage(0, 255, 7, 255, 0);
         int[][] calls = {
             {0, 0, 0}, {0, 1, 4}, {0, 4, 4}, {0, 5, -1}, {0, MAX, -1}, {0, 48, -1},
             {255, 0, 1}, {255, 1, 1}, {255, 2, 3}, {255, 4, -1}, {-1, 0, 1},
@@ -267,7 +223,7 @@ public final class PromiseTest {
             String text = "10: find(" + call[0] + ", " + call[1] + ")";
             Check.due(text, x.find(call[0], call[1]), call[2]);
         }
-        x = withPage(row(48, 200, 1));
+        x = Bench.withPage(Bench.row(48, 200, 1));
         Check.due("10: the last place", x.find(247, 0), 47);
         Check.due("10: the last place from itself", x.find(247, 47), 47);
         x.send();
@@ -278,39 +234,39 @@ public final class PromiseTest {
     }
 
     private static void promise11Edit() {
-        SqueezeQueue x = withPage(1, 200, 3);
+        Counted x = Bench.withPage(1, 200, 3);
         x.edit();
         Check.due("11: put", x.put(4), 4);
         Check.due("11: repeat", x.repeat(4, 4), 8);
-        draftIs("11: the page became the draft", x, 1, 200, 3, 4, 1, 200, 3, 4);
+        Bench.draftIs("11: the page became the draft", x, 1, 200, 3, 4, 1, 200, 3, 4);
 
-        x = withPage(row(48, 0, 1));
+        x = Bench.withPage(Bench.row(48, 0, 1));
         x.edit();
         Check.due("11: put into 48 bytes", x.put(1), -1);
-        draftIs("11: 48 bytes", x, row(48, 0, 1));
+        Bench.draftIs("11: 48 bytes", x, Bench.row(48, 0, 1));
     }
 
     private static void promise12OrderAndLimits() {
-        SqueezeQueue x = withPage(1, 2);
-        putAll(x, 9, 8, 7, 6, 5);
+        Counted x = Bench.withPage(1, 2);
+        Bench.putAll(x, 9, 8, 7, 6, 5);
         x.edit();
-        pageIs("12: the page stays", x, 1, 2);
+        Bench.pageIs("12: the page stays", x, 1, 2);
         Check.due("12: no bytes of the old draft", x.repeat(3, 1), -1);
         x.put(50);
         x.repeat(1, 3);
-        pageIs("12: the page stays when the draft grows", x, 1, 2);
+        Bench.pageIs("12: the page stays when the draft grows", x, 1, 2);
         x.erase();
         x.put(60);
-        pageIs("12: the page stays when the draft is begun again", x, 1, 2);
+        Bench.pageIs("12: the page stays when the draft is begun again", x, 1, 2);
         x.edit();
         x.edit();
-        draftIs("12: edit twice", x, 1, 2);
+        Bench.draftIs("12: edit twice", x, 1, 2);
 
-        x = withDraft(1, 2, 3);
+        x = Bench.withDraft(1, 2, 3);
         x.edit();
-        draftIs("12: an empty page empties the draft", x);
+        Bench.draftIs("12: an empty page empties the draft", x);
 
-        x = withDraft(1);
+        x = Bench.withDraft(1);
         x.send();
         x.put(2);
         x.send();
@@ -318,7 +274,7 @@ public final class PromiseTest {
         x.edit();
         Check.due("12: edit leaves the queue", x.blocks(), 1);
         Check.due("12: receive() after edit", x.receive(), 2);
-        pageIs("12: the next page", x, 1, 2);
+        Bench.pageIs("12: the next page", x, 1, 2);
         Check.due("12: receive leaves the draft", x.put(5), 2);
     }
 }
