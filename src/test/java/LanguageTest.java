@@ -6,7 +6,9 @@ import java.lang.reflect.Modifier;
 import java.nio.file.Files;
 import java.nio.file.Path;
 import java.util.Arrays;
+import java.util.HashMap;
 import java.util.HashSet;
+import java.util.Map;
 import java.util.Set;
 import java.util.TreeSet;
 import java.util.regex.Matcher;
@@ -28,6 +30,12 @@ public final class LanguageTest {
     private static final Pattern COUNTING_LOOP = Pattern.compile(
         "(?s)\n( *)for \\(int (\\w+) = [^;]+; \\2 <=? \\w+; \\2\\+\\+\\) \\{\n(.*?)\n\\1}");
 
+    /** Its name and its body, up to the brace that stands under its head. */
+    private static final Pattern METHOD = Pattern.compile(
+        "(?s)\n    (?:public|private) (?:static )?\\w+ (\\w+)\\([^)]*\\) \\{\n(.*?)\n    }");
+    private static final int MOST_LINES = 60;
+    private static final int MOST_DEPTH = 6;
+
     private LanguageTest() {
     }
 
@@ -37,6 +45,7 @@ public final class LanguageTest {
         methods();
         words();
         loops();
+        calls();
         Check.end();
     }
 
@@ -116,5 +125,54 @@ public final class LanguageTest {
             Check.that("the counter stays in: " + loops.group(), !changed.matcher(loops.group(3)).find());
         }
         Check.due("loops that count to a bound", counting, all);
+    }
+
+    /** Rules 8 and 10: no recursion, calls at most six deep, none among another's arguments, short methods. */
+    private static void calls() throws IOException {
+        Map<String, String> bodies = new HashMap<>();
+        Matcher methods = METHOD.matcher(code());
+        while (methods.find()) {
+            bodies.put(methods.group(1), methods.group(2));
+        }
+        Check.due("methods read", bodies.size(), SqueezeQueue.class.getDeclaredMethods().length);
+        for (String name : bodies.keySet()) {
+            String body = bodies.get(name);
+            Check.that(name + " is short", body.lines().count() <= MOST_LINES);
+            Check.that(name + " has no call inside a call", !callInsideCall(body));
+            Check.that(name + " goes at most " + MOST_DEPTH + " deep", depth(name, bodies, 1) <= MOST_DEPTH);
+        }
+    }
+
+    /** A bracket right behind a word is a call's: if, for and switch have a space before theirs. */
+    private static boolean callInsideCall(String body) {
+        int open = 0;
+        int callBegan = -1;
+        for (int i = 1; i < body.length(); i++) {
+            char c = body.charAt(i);
+            if (c == '(') {
+                open++;
+                boolean call = Character.isJavaIdentifierPart(body.charAt(i - 1));
+                if (call && callBegan >= 0) {
+                    return true;
+                }
+                callBegan = call ? open : callBegan;
+            } else if (c == ')') {
+                callBegan = open == callBegan ? -1 : callBegan;
+                open--;
+            }
+        }
+        return false;
+    }
+
+    /** Recursion shows itself as a depth that goes on past the most. */
+    private static int depth(String name, Map<String, String> bodies, int reached) {
+        int deepest = reached;
+        Matcher called = Pattern.compile("\\b(\\w+)\\(").matcher(bodies.get(name));
+        while (reached <= MOST_DEPTH && called.find()) {
+            if (bodies.containsKey(called.group(1))) {
+                deepest = Math.max(deepest, depth(called.group(1), bodies, reached + 1));
+            }
+        }
+        return deepest;
     }
 }
